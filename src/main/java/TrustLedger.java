@@ -373,7 +373,8 @@ public final class TrustLedger {
             if (has(accepted[self], i)) {
                 return false;
             }
-            boolean may = quorums.isGivenTo(self, nodesWith(backed, i))
+            // No quorum is given to a node that is not in it: most statements fail by that alone.
+            boolean may = has(backed[self], i) && quorums.isGivenTo(self, nodesWith(backed, i))
                 || quorums.trusts[self].isBlockedBy(nodesWith(accepted, i));
             if (may) {
                 accepted[self] |= 1 << i;
@@ -383,7 +384,8 @@ public final class TrustLedger {
         }
 
         boolean confirmIfMay(int i) {
-            if (has(confirmed, i) || !quorums.isGivenTo(self, nodesWith(accepted, i))) {
+            boolean open = has(accepted[self], i) && !has(confirmed, i);
+            if (!open || !quorums.isGivenTo(self, nodesWith(accepted, i))) {
                 return false;
             }
             confirmed |= 1 << i;

@@ -85,7 +85,7 @@ public final class ModelRunsTest {
         } else if (choice < 37) {
             deliver(pick(Math.max(1, model.envelopes())), v);
         } else {
-            strange(pick(8));
+            strange(pick(9));
         }
     }
 
@@ -137,6 +137,8 @@ public final class ModelRunsTest {
             forge(pick(7) - 1, pick(5) - 1, pick(9), pick(9), pick(9));
         } else if (choice == 6) {
             deliver(pick(124) - 2, pick(7) - 1);
+        } else if (choice == 7) {
+            submitSome();
         } else {
             compareAll();
         }

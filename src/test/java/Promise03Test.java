@@ -52,9 +52,13 @@ public final class Promise03Test {
     }
 
     private static void refusesASlotThatWasLeft() {
+        for (int v = 0; v < 5; v++) {
+            TrustLedger t = Scenes.loners();
+            t.propose(v, 1);
+            Check.due("node " + v + " has left slot 0", t.submit(0, 0, 0, 0, 0, 0, 1), false);
+        }
         TrustLedger t = Scenes.loners();
         t.propose(4, 1);
-        Check.due("node 4 has left slot 0", t.submit(0, 0, 0, 0, 0, 0, 1), false);
         Check.due("not slot 1", t.submit(1, 0, 0, 0, 0, 0, 1), true);
         t.propose(4, 1);
         Check.due("node 4 has left slot 1", t.submit(1, 1, 0, 0, 0, 0, 1), false);

@@ -39,7 +39,10 @@ public final class Promise04Test {
         Check.due("who does not lead does not vote", t.statements(3, 0, 0, 0), 0);
     }
 
-    /** In slot 0, round 1 the ranks of nodes 0 .. 4 are 89, 51, 13, 76, 38; in slot 1 they are 40, 2, 65, 27, 90. */
+    /**
+     * In slot 0, round 1 the ranks of nodes 0 .. 4 are 89, 51, 13, 76, 38; in slot 1 they are 40, 2, 65, 27, 90,
+     * and in slot 2 they are 92, 54, 16, 79, 41.
+     */
     private static void choosesTheLeaderBySlotAndTrust() {
         int[][] cases = {{1, 0b11110, 8}, {2, 0b10110, 2}, {2, 0b10000, 16}, {2, 0b00000, 4}, {4, 0b00100, 16}};
         for (int[] c : cases) {
@@ -57,6 +60,12 @@ public final class Promise04Test {
         Check.due("node 0 is in slot 1", t.state(0, 0), 1);
         t.propose(0, 1);
         Check.due("leader in slot 1", t.state(0, 2), 16);
+        for (int u = 1; u <= 3; u++) {
+            t.deliver(t.forge(u, 1, 0, 0, Scenes.bit(1, 1)), 0);
+        }
+        Check.due("node 0 is in slot 2", t.state(0, 0), 2);
+        t.propose(0, 1);
+        Check.due("leader in slot 2", t.state(0, 2), 1);
     }
 
     private static void goesOnFromSlotToSlot() {

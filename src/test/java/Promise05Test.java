@@ -7,6 +7,7 @@ public final class Promise05Test {
         raisesTheCounter();
         preparesTheComposite();
         preparesTheGreatestConfirmed();
+        mayEndTheSlot();
         Check.end();
     }
 
@@ -97,5 +98,20 @@ public final class Promise05Test {
         t.timeout(0);
         Check.due("value 3 of the greatest", t.statements(0, 0, 1, 0), Scenes.bit(1, 1) | Scenes.bit(2, 3));
         Check.due("though the composite is 1", t.state(0, 4), 1);
+    }
+
+    private static void mayEndTheSlot() {
+        TrustLedger t = new TrustLedger(2);
+        t.trust(0, 2, 0b111, 0, 0);
+        t.trust(1, 1, 0b10, 0, 0);
+        t.submit(0, 0, 0, 0, 0, 1, 7);
+        t.propose(0, 1);
+        t.deliver(t.forge(1, 0, 1 << 1, Scenes.bit(2, 1), Scenes.bit(2, 1)), 0);
+        Check.due("not yet", t.value(0, 0), 0);
+        Check.due("timeout", t.timeout(0), true);
+        Check.due("slot", t.state(0, 0), 1);
+        Check.due("value", t.value(0, 0), 1);
+        Check.due("carried out", t.balance(0, 1, 0), 107);
+        Check.due("header", t.header(0), 1);
     }
 }

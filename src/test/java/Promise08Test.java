@@ -45,6 +45,14 @@ public final class Promise08Test {
         Check.due("node 1 alone", t.statements(0, 0, 0, 1), 0);
         t.deliver(t.forge(2, 0, 0b11000, 0, 0), 0);
         Check.due("both of it are still known", t.statements(0, 0, 0, 1), 0b11000);
+        t = new TrustLedger(0);
+        t.trust(1, 2, 0b11, 0, 0);
+        int empty = t.post(0, 0);
+        t.propose(0, 4);
+        t.deliver(t.post(0, 0), 1);
+        t.deliver(empty, 1);
+        t.propose(1, 1);
+        Check.due("a vote stays known, though an older envelope came later", t.statements(1, 0, 0, 0), 1 << 4);
     }
 
     private static void aLeaderVotesForWhatItHasAccepted() {
@@ -90,6 +98,12 @@ public final class Promise08Test {
         Check.due("no vote", t.statements(0, 0, 1, 0), 0);
         Scenes.tellZero(t, 3, 1 << 1, 0, 0);
         Check.due("the value of the greatest confirmed", t.statements(0, 0, 1, 0), Scenes.bit(1, 4));
+        for (int b = 0; b < 28; b++) {
+            t = Scenes.oneGood();
+            Scenes.tellZero(t, 3, 0, 1 << b, 0);
+            Scenes.tellZero(t, 3, 1 << 3, 0, 0);
+            Check.due("ballot " + b + " is confirmed", t.statements(0, 0, 1, 0), Scenes.bit(1, b % 7 + 1));
+        }
     }
 
     private static void acceptsNoPrepareAgainstACommit() {

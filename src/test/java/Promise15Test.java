@@ -95,6 +95,15 @@ public final class Promise15Test {
         t.propose(0, 7);
         due(t, Scenes.offered(0, 1, 5, 5), Scenes.offered(1, 0, 6, 3));
         Check.due("coins of the buyer", t.balance(0, 1, 0), 4);
+        // The seller has one share: that is enough to stay.
+        t = Scenes.loners();
+        t.submit(0, 0, Scenes.OFFER, 0, Scenes.SELL, 5, 5);
+        t.submit(0, 1, Scenes.PAY, 0, Scenes.SHARE, 3, 19);
+        t.submit(0, 2, Scenes.PAY, 1, Scenes.COIN, 2, 95);
+        t.submit(1, 0, Scenes.OFFER, 1, Scenes.BUY, 5, 3);
+        t.propose(0, 7);
+        t.propose(0, 1);
+        due(t, Scenes.offered(0, 1, 5, 5), Scenes.offered(1, 0, 5, 3));
     }
 
     private static void endsWhenTheComerCannotSell() {
