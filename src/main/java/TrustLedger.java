@@ -143,11 +143,11 @@ public final class TrustLedger {
     }
 
     public boolean deliver(int k, int v) {
-        if (!isWithin(k, 0, mailed - 1) || !isAtWork(v)) {
+        if (!isWithin(k, 0, MOST_ENVELOPES - 1) || !isAtWork(v)) {
             return false;
         }
         Envelope envelope = mail[k];
-        if (envelope.sender == v || envelope.slot != nodes[v].slot) {
+        if (envelope == null || envelope.sender == v || envelope.slot != nodes[v].slot) {
             return false;
         }
         Agreement agreement = nodes[v].agreements[envelope.slot];
@@ -199,10 +199,13 @@ public final class TrustLedger {
     }
 
     public int offer(int v, int k) {
-        if (!isGood(v) || !isWithin(k, 0, nodes[v].ledger.resting - 1)) {
+        if (!isGood(v) || !isWithin(k, 0, BOOK_ROOM - 1)) {
             return NONE;
         }
         Offer found = nodes[v].ledger.book[k];
+        if (found == null) {
+            return NONE;
+        }
         return found.account + 4 * found.side + 16 * found.price + 256 * found.amount;
     }
 
@@ -727,10 +730,14 @@ public final class TrustLedger {
 
         private int bestFor(Offer comer) {
             int best = NONE;
-            for (int k = 0; k < resting; k++) {
-                boolean meets = book[k].side != comer.side && comer.agreesTo(book[k].price);
-                if (meets && (best == NONE || comer.prefers(book[k].price, book[best].price))) {
+            int bestPrice = 0;
+            for (int k = 0; k < BOOK_ROOM; k++) {
+                Offer rested = book[k];
+                boolean meets = rested != null && rested.side != comer.side
+                    && comer.agreesTo(rested.price);
+                if (meets && (best == NONE || comer.prefers(rested.price, bestPrice))) {
                     best = k;
+                    bestPrice = rested.price;
                 }
             }
             return best;
@@ -739,9 +746,12 @@ public final class TrustLedger {
         /** Answers whether the comer may go on with the next best offer. */
         private boolean tradeWith(Offer comer, int k) {
             Offer rested = book[k];
+            // Neither can be: bestFor found it, and submit lets no price below 1 in.
+            if (rested == null || rested.price < 1) {
+                return false;
+            }
             int seller = comer.sells() ? comer.account : rested.account;
             int buyer = comer.sells() ? rested.account : comer.account;
-            // A price is never below 1: no other is let in by submit.
             int affordable = coins[buyer] / rested.price;
             int traded = Math.min(Math.min(comer.amount, rested.amount),
                 Math.min(shares[seller], affordable));

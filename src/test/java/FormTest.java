@@ -1,11 +1,16 @@
+import java.io.IOException;
 import java.lang.reflect.Constructor;
 import java.lang.reflect.Field;
 import java.lang.reflect.Method;
 import java.lang.reflect.Modifier;
+import java.nio.file.Files;
+import java.nio.file.Path;
 import java.util.Arrays;
+import java.util.List;
 import java.util.TreeSet;
+import java.util.regex.Pattern;
 
-/** The public face and what reflection can tell of the language's rules 1, 2, 5 and 11. */
+/** The public face, and what reflection and the source's text can tell of the language's rules. */
 public final class FormTest {
     private static final String[] FACE = {
         "trust(IIIII)boolean", "submit(IIIIIII)boolean", "propose(II)boolean", "timeout(I)boolean",
@@ -13,7 +18,11 @@ public final class FormTest {
         "statements(IIII)int", "value(II)int", "header(I)int", "balance(III)int", "offer(II)int",
     };
 
-    public static void main(String[] args) {
+    private static final Path SOURCE = Path.of("src/main/java/TrustLedger.java");
+    private static final int MOST_LINES = 60;
+    private static final int MOST_PARAMETERS = 7;
+
+    public static void main(String[] args) throws IOException {
         Class<?> c = TrustLedger.class;
         Check.due("the class is public and final", c.getModifiers() & (Modifier.PUBLIC | Modifier.FINAL),
             Modifier.PUBLIC | Modifier.FINAL);
@@ -26,8 +35,55 @@ public final class FormTest {
             Check.due(i + " is static", Modifier.isStatic(i.getModifiers()), true);
             Check.due(i + " is not public", Modifier.isPublic(i.getModifiers()) || Modifier.isProtected(i.getModifiers()), false);
             staticFieldsAreFinal(i);
+            fewParameters(i);
         }
+        fewParameters(c);
+        List<String> lines = Files.readAllLines(SOURCE);
+        nothingForbidden(lines);
+        loopsAreCounted(lines);
+        methodsAreShort(lines);
         Check.end();
+    }
+
+    /** Rules 2 to 7, 10 and 13: words that the program has no need of. */
+    private static void nothingForbidden(List<String> lines) {
+        Pattern forbidden = Pattern.compile("\\b(package|import|throw|throws|try|catch|finally|synchronized|volatile|assert"
+            + "|double|float|equals|hashCode|toString|System|Thread|\\w+Exact)\\b|->|::|@|static \\{|\\[\\]\\[\\]\\[\\]");
+        for (int i = 0; i < lines.size(); i++) {
+            Check.due("line " + (i + 1) + ": " + lines.get(i), forbidden.matcher(lines.get(i)).find(), false);
+        }
+    }
+
+    /** Rule 9: each loop counts up to a bound or down to one. */
+    private static void loopsAreCounted(List<String> lines) {
+        Pattern loop = Pattern.compile("\\b(for|while|do)\\b.*\\{$");
+        Pattern counted = Pattern.compile("for \\(int (\\w+) = [^;]+; \\1 (<|<=|>=) [^;]+; \\1(\\+\\+|--)\\) \\{$");
+        for (int i = 0; i < lines.size(); i++) {
+            boolean isLoop = loop.matcher(lines.get(i)).find();
+            Check.due("line " + (i + 1) + ": " + lines.get(i), isLoop && !counted.matcher(lines.get(i)).find(), false);
+        }
+    }
+
+    /** Rule 11: from the line that opens a method to the one with the same indentation that closes it. */
+    private static void methodsAreShort(List<String> lines) {
+        Pattern opening = Pattern.compile("^( +)[\\w\\[\\] ]+\\([^;]*\\) \\{$");
+        for (int i = 0; i < lines.size(); i++) {
+            var found = opening.matcher(lines.get(i));
+            int end = i;
+            while (found.find(0) && !lines.get(end).equals(found.group(1) + "}")) {
+                end++;
+            }
+            Check.due("line " + (i + 1) + " opens what is short", end - i < MOST_LINES, true);
+        }
+    }
+
+    private static void fewParameters(Class<?> c) {
+        for (Method m : c.getDeclaredMethods()) {
+            Check.due(m + " has few parameters", m.getParameterCount() <= MOST_PARAMETERS, true);
+        }
+        for (Constructor<?> made : c.getDeclaredConstructors()) {
+            Check.due(made + " has few parameters", made.getParameterCount() <= MOST_PARAMETERS, true);
+        }
     }
 
     private static void constructorIsPublic(Class<?> c) {

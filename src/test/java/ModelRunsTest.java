@@ -1,7 +1,12 @@
-/** Long runs of mixed calls, right and wrong ones, each answered as the plain model answers it. */
+/**
+ * Long runs of mixed calls, right and wrong ones, each answered as the plain model answers it. Each run is played
+ * several times on new objects, up to a place of its own, and what is left of the 512 calls then asks for all there is.
+ */
 public final class ModelRunsTest {
-    private static final int RUNS = 1200;
-    private static final int MOST_CALLS = 500;
+    private static final int RUNS = 800;
+    private static final int PARTS = 3;
+    private static final int MOST_CALLS = 512;
+    private static final int MOST_ACTS = 470;
 
     private final int run;
     private final int faulty;
@@ -21,7 +26,9 @@ public final class ModelRunsTest {
 
     public static void main(String[] args) {
         for (int run = 0; run < RUNS && Check.wrong() == 0; run++) {
-            new ModelRunsTest(run).play();
+            for (int part = 1; part <= PARTS; part++) {
+                new ModelRunsTest(run).play(part);
+            }
         }
         System.out.println("nodes that ended in slot 0 .. 3: " + ENDED[0] + " " + ENDED[1] + " " + ENDED[2] + " " + ENDED[3]);
         Check.due("some nodes end in every slot", ENDED[0] > 50 && ENDED[1] > 50 && ENDED[2] > 50 && ENDED[3] > 50, true);
@@ -33,22 +40,21 @@ public final class ModelRunsTest {
         return (int) ((seed >>> 33) % bound);
     }
 
-    private void play() {
+    private void play(int part) {
         setTrust();
         for (int i = pick(14); i > 0; i--) {
             submitSome();
         }
-        int length = 60 + pick(MOST_CALLS - 60);
+        int length = (60 + pick(MOST_ACTS - 60)) * part / PARTS;
         while (calls < length && Check.wrong() == 0) {
             step();
-            if (pick(6) == 0) {
-                compareAll();
-            }
         }
-        compareAll();
+        for (int i = 0; i < 5; i++) {
+            compareNode((run + i) % 5);
+        }
         for (int v = 0; v < 5; v++) {
-            if (real.state(v, 0) >= 0) {
-                ENDED[real.state(v, 0)]++;
+            if (model.state(v, 0) >= 0) {
+                ENDED[model.state(v, 0)]++;
             }
         }
     }
@@ -140,8 +146,22 @@ public final class ModelRunsTest {
         } else if (choice == 7) {
             submitSome();
         } else {
-            compareAll();
+            askSome();
         }
+    }
+
+    private void askSome() {
+        int v = pick(7) - 1;
+        int a = pick(6) - 1;
+        int b = pick(5) - 1;
+        int k = pick(10) - 1;
+        ask("header(" + v + ")", real.header(v), model.header(v));
+        ask("state(" + v + ", " + k + ")", real.state(v, k), model.state(v, k));
+        ask("balance(" + v + ", " + a + ", " + b + ")", real.balance(v, a, b), model.balance(v, a, b));
+        ask("offer(" + v + ", " + k + ")", real.offer(v, k), model.offer(v, k));
+        ask("value(" + v + ", " + a + ")", real.value(v, a), model.value(v, a));
+        ask("statements(" + v + ", " + a + ", " + b + ", 1)", real.statements(v, a, b, 1), model.statements(v, a, b, 1));
+        ask("envelopes()", real.envelopes(), model.envelopes());
     }
 
     private void told(String call, long got, long want) {
@@ -186,34 +206,31 @@ public final class ModelRunsTest {
         told("deliver(" + k + ", " + v + ")", real.deliver(k, v), model.deliver(k, v));
     }
 
-    private void compareAll() {
-        String at = "run " + run + " (faulty " + faulty + "), after call " + calls + ": ";
-        Check.due(at + "envelopes()", real.envelopes(), model.envelopes());
-        for (int v = -1; v <= 5; v++) {
-            Check.due(at + "header(" + v + ")", real.header(v), model.header(v));
-            for (int what = -1; what <= 6; what++) {
-                Check.due(at + "state(" + v + ", " + what + ")", real.state(v, what), model.state(v, what));
-            }
-            for (int a = -1; a <= 4; a++) {
-                Check.due(at + "balance(" + v + ", " + a + ", 0)", real.balance(v, a, 0), model.balance(v, a, 0));
-                Check.due(at + "balance(" + v + ", " + a + ", 1)", real.balance(v, a, 1), model.balance(v, a, 1));
-            }
-            for (int k = -1; k <= 8; k++) {
-                Check.due(at + "offer(" + v + ", " + k + ")", real.offer(v, k), model.offer(v, k));
-            }
-            compareStatements(at, v);
+    /** An answer after the 512th call is free. */
+    private void ask(String call, long got, long want) {
+        if (calls < MOST_CALLS) {
+            told(call, got, want);
         }
     }
 
-    private void compareStatements(String at, int v) {
-        for (int slot = -1; slot <= 3; slot++) {
-            Check.due(at + "value(" + v + ", " + slot + ")", real.value(v, slot), model.value(v, slot));
-            for (int kind = 0; kind < 3; kind++) {
-                for (int how = 0; how < 3; how++) {
-                    Check.due(at + "statements(" + v + ", " + slot + ", " + kind + ", " + how + ")",
-                        real.statements(v, slot, kind, how), model.statements(v, slot, kind, how));
-                }
-            }
+    private void compareNode(int v) {
+        ask("header(" + v + ")", real.header(v), model.header(v));
+        for (int what = 0; what < 6; what++) {
+            ask("state(" + v + ", " + what + ")", real.state(v, what), model.state(v, what));
+        }
+        for (int i = 0; i < 27; i++) {
+            int slot = i / 9;
+            int kind = i / 3 % 3;
+            ask("statements(" + v + ", " + slot + ", " + kind + ", " + i % 3 + ")",
+                real.statements(v, slot, kind, i % 3), model.statements(v, slot, kind, i % 3));
+        }
+        for (int i = 0; i < 8; i++) {
+            ask("balance(" + v + ", " + i / 2 + ", " + i % 2 + ")",
+                real.balance(v, i / 2, i % 2), model.balance(v, i / 2, i % 2));
+            ask("offer(" + v + ", " + i + ")", real.offer(v, i), model.offer(v, i));
+        }
+        for (int slot = 0; slot < 3; slot++) {
+            ask("value(" + v + ", " + slot + ")", real.value(v, slot), model.value(v, slot));
         }
     }
 }

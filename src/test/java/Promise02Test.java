@@ -66,6 +66,8 @@ public final class Promise02Test {
         t = new TrustLedger(0);
         t.propose(3, 1);
         Check.due("after a proposal", t.trust(0, 1, 1, 0, 0), false);
+        t.timeout(3);
+        Check.due("after a timeout", t.trust(0, 1, 1, 0, 0), false);
     }
 
     private static void innerGroupCountsForOne() {

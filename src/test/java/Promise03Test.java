@@ -5,6 +5,8 @@ public final class Promise03Test {
         takesTheEdges();
         refusesWhatIsSet();
         refusesASlotThatWasLeft();
+        takesOneWhileNobodyHasLeft();
+        faultyNodesNeverLeave();
         leavesTheUnsetAlone();
         Check.end();
     }
@@ -65,6 +67,29 @@ public final class Promise03Test {
         Check.due("not slot 2", t.submit(2, 1, 0, 0, 0, 0, 1), true);
         t.propose(4, 1);
         Check.due("node 4 has left slot 2", t.submit(2, 2, 0, 0, 0, 0, 1), false);
+    }
+
+    /** "or a good node has left that slot": proposals, envelopes and rounds in it do not matter. */
+    private static void takesOneWhileNobodyHasLeft() {
+        TrustLedger t = Scenes.oneGood();
+        t.propose(0, 3);
+        t.timeout(0);
+        Scenes.tellZero(t, 2, 0, 0, Scenes.bit(1, 3));
+        Check.due("just before it leaves", t.submit(0, 0, 0, 0, 0, 1, 10), true);
+        t.deliver(t.forge(3, 0, 0, 0, Scenes.bit(1, 3)), 0);
+        Check.due("it was carried out", t.balance(0, 1, 0), 110);
+        Check.due("just after it has left", t.submit(0, 1, 0, 0, 0, 1, 10), false);
+    }
+
+    private static void faultyNodesNeverLeave() {
+        TrustLedger t = new TrustLedger(31);
+        for (int v = 0; v < 5; v++) {
+            t.trust(v, 1, 1 << v, 0, 0);
+            t.propose(v, 1);
+        }
+        for (int i = 0; i < 9; i++) {
+            Check.due("submit", t.submit(i / 3, i % 3, 0, 0, 0, 0, 1), true);
+        }
     }
 
     private static void leavesTheUnsetAlone() {

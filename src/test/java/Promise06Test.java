@@ -6,6 +6,7 @@ public final class Promise06Test {
         keepsWhatItWas();
         tellsVotesAsBackedOnly();
         tellsOfSlotsThatWereLeft();
+        tellsOfNoSlotAbove();
         stopsAt120();
         Check.end();
     }
@@ -71,6 +72,18 @@ public final class Promise06Test {
             Check.due("value", t.value(1, slot), values[slot]);
         }
         Check.due("both have the same header", t.header(1), t.header(0));
+    }
+
+    /** "or above that of v". */
+    private static void tellsOfNoSlotAbove() {
+        TrustLedger t = Scenes.loners();
+        for (int own = 0; own <= 3; own++) {
+            for (int slot = 0; slot <= 3; slot++) {
+                int due = slot <= own && slot < 3 ? t.envelopes() : -1;
+                Check.due("post of slot " + slot + " in slot " + own, t.post(0, slot), due);
+            }
+            t.propose(0, 1);
+        }
     }
 
     private static void stopsAt120() {

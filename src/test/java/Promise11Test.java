@@ -4,6 +4,7 @@ public final class Promise11Test {
         refusesWrongInputs();
         tellsVotedAcceptedConfirmedApart();
         keepsThemOfSlotsThatWereLeft();
+        hasNothingOfSlotsAboveItsOwn();
         Check.end();
     }
 
@@ -36,6 +37,24 @@ public final class Promise11Test {
                 Check.due("kind " + kind + ", how " + how, t.statements(0, 0, kind, how), due[kind][how]);
             }
         }
+    }
+
+    /** "0 for a slot above its own". */
+    private static void hasNothingOfSlotsAboveItsOwn() {
+        TrustLedger t = Scenes.loners();
+        for (int own = 0; own < 3; own++) {
+            for (int slot = 0; slot < 3; slot++) {
+                for (int i = 0; i < 9; i++) {
+                    int set = t.statements(3, slot, i / 3, i % 3);
+                    Check.due("slot " + slot + " from slot " + own, set != 0, slot < own);
+                }
+            }
+            t.propose(3, 7);
+        }
+        t = Scenes.oneGood();
+        t.deliver(t.forge(1, 1, 0xFE, 0, 0), 0);
+        t.deliver(t.forge(2, 1, 0xFE, 0, 0), 0);
+        Check.due("nothing is learnt of a slot above", t.statements(0, 1, 0, 1), 0);
     }
 
     private static void keepsThemOfSlotsThatWereLeft() {

@@ -16,6 +16,18 @@ public final class Promise13Test {
         Check.due("no node", t.header(5), 0);
         Check.due("no node", t.header(Integer.MAX_VALUE), 0);
         Check.due("a faulty node", new TrustLedger(1).header(0), 0);
+        leastAndGreatest();
         Check.end();
+    }
+
+    /** "(it wraps)": three slots are too few for that; this is as far as a header comes. */
+    private static void leastAndGreatest() {
+        TrustLedger t = Scenes.loners();
+        for (int slot = 0; slot < 3; slot++) {
+            t.propose(0, 1);
+            t.propose(4, 7);
+        }
+        Check.due("the least", t.header(0), 954336);
+        Check.due("the greatest", t.header(4), 6501234);
     }
 }

@@ -23,6 +23,10 @@ public final class Promise15Test {
             Check.due("offer(" + w[0] + ", " + w[1] + ")", t.offer(w[0], w[1]), -1);
         }
         Check.due("a faulty node", new TrustLedger(1).offer(0, 0), -1);
+        t = Scenes.loners();
+        t.submit(0, 0, Scenes.OFFER, 0, Scenes.BUY, 1, 1);
+        t.propose(4, 1);
+        Check.due("the least there can be", t.offer(4, 0), 272);
     }
 
     private static void due(TrustLedger t, int... offers) {
