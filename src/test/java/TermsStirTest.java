@@ -5,6 +5,8 @@ public final class TermsStirTest {
         whoDoesNotLeadVotesForNoProposal();
         withoutALeaderNobodyIsFollowed();
         aVoteOfALeaderIsEnough();
+        anAcceptanceOfALeaderIsEnough();
+        acceptancesCountAmongThoseThatBacked();
         aLeaderThatAcceptedVotesInTheNextPass();
         noVoteWhenANominateIsConfirmed();
         theVoteComesBeforeTheConfirmation();
@@ -74,6 +76,35 @@ public final class TermsStirTest {
         due(t, 1, 0, 1 << 7, 0, 0);
         t.deliver(t.post(1, 0), 2);
         due(t, 2, 0, 0, 0, 0);
+    }
+
+    /** "BACKED (voted for or accepted)": node 0 has accepted, but never voted, when it posts. */
+    private static void anAcceptanceOfALeaderIsEnough() {
+        TrustLedger t = new TrustLedger(0b11100);
+        tell(t, 0, 2, 1 << 3, 0, 0);
+        tell(t, 0, 3, 1 << 3, 0, 0);
+        due(t, 0, 0, 0, 1 << 3, 0);
+        t.propose(1, 6);
+        t.deliver(t.post(0, 0), 1);
+        due(t, 1, 0, 1 << 3, 0, 0);
+    }
+
+    /** Node 1 wants two of 0, 1, 2: node 0 can be in no quorum, and node 2 has accepted without a vote. */
+    private static void acceptancesCountAmongThoseThatBacked() {
+        TrustLedger t = new TrustLedger(0b11000);
+        t.trust(0, 5, 31, 0, 0);
+        t.trust(1, 2, 0b00111, 0, 0);
+        t.trust(2, 1, 0b01000, 0, 0);
+        t.trust(3, 1, 0b01000, 0, 0);
+        t.propose(0, 5);
+        t.propose(1, 1);
+        t.deliver(t.post(0, 0), 1);
+        tell(t, 1, 3, 1 << 5, 0, 0);
+        due(t, 1, 0, 1 << 5, 0, 0);
+        tell(t, 2, 3, 1 << 5, 0, 0);
+        due(t, 2, 0, 0, 1 << 5, 1 << 5);
+        t.deliver(t.post(2, 0), 1);
+        due(t, 1, 0, 1 << 5, 1 << 5, 1 << 5);
     }
 
     /** "if anything changed by them, all of them again": only then rule A sees what rule B accepted. */
