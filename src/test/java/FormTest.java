@@ -40,6 +40,7 @@ public final class FormTest {
         fewParameters(c);
         List<String> lines = Files.readAllLines(SOURCE);
         nothingForbidden(lines);
+        libraryIsAsListed(lines);
         loopsAreCounted(lines);
         methodsAreShort(lines);
         Check.end();
@@ -51,6 +52,17 @@ public final class FormTest {
             + "|double|float|equals|hashCode|toString|System|Thread|\\w+Exact)\\b|->|::|@|static \\{|\\[\\]\\[\\]\\[\\]");
         for (int i = 0; i < lines.size(); i++) {
             Check.due("line " + (i + 1) + ": " + lines.get(i), forbidden.matcher(lines.get(i)).find(), false);
+        }
+    }
+
+    /** Rules 3 and 4: of the library's classes the program needs two functions, and both are on the list. */
+    private static void libraryIsAsListed(List<String> lines) {
+        Pattern library = Pattern.compile("\\b(String|StringBuilder|Integer|Long|Math|List|ArrayList|Arrays|Object|Iterator"
+            + "|Iterable|Comparable|Boolean|Character|Short|Byte|Class|Runtime|Process|java|javax)\\b");
+        Pattern listed = Pattern.compile("\\b(Integer\\.bitCount|Math\\.min)\\(");
+        for (int i = 0; i < lines.size(); i++) {
+            String rest = listed.matcher(lines.get(i)).replaceAll("(");
+            Check.due("line " + (i + 1) + " uses what is listed: " + lines.get(i), library.matcher(rest).find(), false);
         }
     }
 
